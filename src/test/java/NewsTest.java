@@ -89,7 +89,8 @@ public final class NewsTest {
     }
 
     private static void limitOfNews() {
-        PaperChancery x = Check.house(2, 2);
+        PaperChancery x = Check.house(2, 3);
+        x.seat(2, 1);
         x.paper(0, 0, 0, 0, 1, 1);
         for (int i = 2; i <= 160; i++) {
             check.due("news " + i, x.swap(0, 1, 200 - i), i);
@@ -102,6 +103,7 @@ public final class NewsTest {
         check.due("news", x.all(3), 160);
         check.due("papers", x.all(2), 1);
         check.due("since(0)", x.since(0), 0);
+        check.due("since(2)", x.since(2), 0);
         check.due("as(161)", x.as(161), false);
         check.due("as(160)", x.as(160), true);
     }

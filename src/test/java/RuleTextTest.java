@@ -13,6 +13,8 @@ public final class RuleTextTest {
         faultyTexts();
         faultsOfSubjects();
         manyRules();
+        manyTexts();
+        bytesBehindTheEnd();
         refusals();
         faultOfTheLatest();
         randomTexts();
@@ -101,6 +103,10 @@ public final class RuleTextTest {
         faulty("home\u00ff;", 4);
         faulty("home\u0000;", 4);
         faulty("diocesediocese;", 0);
+        faulty("homez;", 0);
+        faulty("dome;", 0);
+        faulty("low late;", 4);
+        faulty("bar xorth=1;", 4);
         faulty("high diocesex;", 5);
     }
 
@@ -125,6 +131,32 @@ public final class RuleTextTest {
         sound((long400 + "1;").substring(0, 390) + ";", 1);
         faulty(long400, 400);
         sound("bar days=1;".repeat(16), 16);
+    }
+
+    /** Texts read one behind the other do not take room from each other. */
+    private static void manyTexts() {
+        PaperChancery x = Check.house(2, 1);
+        x.paper(0, 5, 0, 0, 1, 1);
+        String many = "bar worth>0" + "and worth>0".repeat(33);
+        for (int i = 0; i < 10; i++) {
+            check.due("a text that ends too soon", Check.reign(x, 0, many), -1);
+        }
+        check.due("many tests", Check.reign(x, 0, many + ";"), 1);
+        check.due("many tests of which the last fails", Check.reign(x, 1, many + "and worth=7;"), 1);
+        x.paper(1, 0, 0, 1, 1, 1000);
+        check.due("barred at 0", x.claims(0, 0), 0);
+        check.due("not barred at 1", x.claims(0, 1), 1);
+    }
+
+    private static void bytesBehindTheEnd() {
+        PaperChancery x = new PaperChancery();
+        Check.write(x, "home;homes;high rank");
+        x.end(9);
+        check.due("home;home", x.reign(0), -1);
+        check.due("its place", x.fault(1), 9);
+        Check.write(x, "home;homes;high rank");
+        x.end(5);
+        check.due("home;", x.reign(0), 1);
     }
 
     private static void refusals() {
