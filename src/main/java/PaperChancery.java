@@ -134,15 +134,14 @@ public final class PaperChancery {
     }
 
     public int reign(int time) {
-        if (!isTime(time) || reigns.count >= MOST_REIGNS) {
-            reader.forget();
-            tape.cutTo(0);
-            return REIGN_REFUSED;
-        }
+        // The text is read ahead of all else: its fault is told even where the reign could not be.
         boolean sound = reader.read();
         tape.cutTo(0);
         if (!sound) {
             return REIGN_FAULTY;
+        }
+        if (!isTime(time) || reigns.count >= MOST_REIGNS) {
+            return REIGN_REFUSED;
         }
         reigns.add(time, reader.draft);
         roll.world++;
@@ -750,13 +749,9 @@ public final class PaperChancery {
             place = NONE;
         }
 
-        void forget() {
+        boolean read() {
             fault = 0;
             place = NONE;
-        }
-
-        boolean read() {
-            forget();
             draft.clear();
             tokens.scan();
             at = 0;

@@ -45,7 +45,7 @@ public final class ModelTest {
             }
         }
         int tells = 5 + random.nextInt(40);
-        while (calls < 490) {
+        while (calls < 480) {
             if (random.nextInt(100) < tells) {
                 change();
             } else {
@@ -201,10 +201,14 @@ public final class ModelTest {
             text.append(";");
             rules.add(new Model.Rule(key, argument, tests));
         }
+        boolean sound = random.nextInt(6) > 0;
+        text.append(sound ? "" : "home");
         boolean can = isTime(time) && model.reigns.size() < 6;
         calls += 1 + (text.length() + 19) / 20;
-        due("reign of " + text, Check.reign(x, time, text.toString()), can ? count : -2);
-        if (can) {
+        due("reign of " + text, Check.reign(x, time, text.toString()), !sound ? -1 : can ? count : -2);
+        due("fault of " + text, x.fault(0), sound ? 0 : 1);
+        due("place in " + text, x.fault(1), sound ? -1 : text.length());
+        if (sound && can) {
             model.reigns.add(new Model.Reign(time, rules));
         }
     }

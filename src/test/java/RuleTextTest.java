@@ -17,6 +17,7 @@ public final class RuleTextTest {
         bytesBehindTheEnd();
         refusals();
         faultOfTheLatest();
+        faultOfARefusedOne();
         randomTexts();
         check.finish();
     }
@@ -198,6 +199,39 @@ public final class RuleTextTest {
         check.due("refused", x.reign(-1), -2);
         check.due("fault(0) of a refused one", x.fault(0), 0);
         check.due("fault(1) of a refused one", x.fault(1), -1);
+    }
+
+    /** A fault is told ahead of a time that can't be and of six reigns; the tape goes, and no reign comes. */
+    private static void faultOfARefusedOne() {
+        PaperChancery x = new PaperChancery();
+        for (int time : new int[] {-1, 10000000, Integer.MIN_VALUE, Integer.MAX_VALUE}) {
+            faultyAt(x, time, 0);
+            check.due("a sound text at " + time, Check.reign(x, time, "home;"), -2);
+            check.due("its fault", x.fault(0), 0);
+            check.due("its fault's place", x.fault(1), -1);
+        }
+        for (int i = 0; i < 6; i++) {
+            x.reign(0);
+        }
+        for (int time : new int[] {0, 9999999, -1, 10000000}) {
+            faultyAt(x, time, 6);
+            check.due("a sound 7th at " + time, Check.reign(x, time, "home;"), -2);
+            check.due("a 7th's fault", x.fault(0), 0);
+            check.due("a 7th's fault's place", x.fault(1), -1);
+            check.due("an empty 7th at " + time, x.reign(time), -2);
+        }
+    }
+
+    private static void faultyAt(PaperChancery x, int time, int reigns) {
+        x.feed(0, 0, 0, 0, 0);
+        check.due("bytes 0 at " + time, x.reign(time), -1);
+        check.due("fault of bytes 0", x.fault(0), 1);
+        check.due("place of bytes 0", x.fault(1), 0);
+        check.due("home if rank=1; at " + time, Check.reign(x, time, "home if rank=1;"), -1);
+        check.due("fault of the subject", x.fault(0), 2);
+        check.due("place of the subject", x.fault(1), 8);
+        check.due("the tape went", x.end(1), false);
+        check.due("the reigns", x.all(4), reigns);
     }
 
     // ---- an oracle that knows the grammar as a regular expression over kinds of tokens
