@@ -1,20 +1,52 @@
 import java.nio.charset.StandardCharsets;
+import java.util.List;
+import java.util.function.Supplier;
+import java.util.function.ToLongFunction;
 
 /** What the tests share: counting wrong answers, and writing a text onto the tape. */
 final class Check {
+    /** Numbers far outside of all that can be, on both sides. */
+    static final int[] FAR = {Integer.MIN_VALUE, Integer.MIN_VALUE + 1, Integer.MAX_VALUE - 1, Integer.MAX_VALUE};
+    static final int LAST_TIME = 9999999;
+    /** The first that can't be, on both sides, and those far outside. */
+    static final int[] NO_TIMES = {-1, LAST_TIME + 1, Integer.MIN_VALUE, Integer.MAX_VALUE};
+
     private int wrong;
     private int asked;
+    private String sentence = "";
+
+    /** Tells which sentence of the document the next answers are about. */
+    void sentence(String words) {
+        sentence = words + ": ";
+    }
 
     void due(String call, long got, long want) {
         asked++;
         if (got != want) {
             wrong++;
-            System.out.println(call + " answered " + got + ", due is " + want);
+            System.out.println(sentence + call + " answered " + got + ", due is " + want);
         }
     }
 
     void due(String call, boolean got, boolean want) {
         due(call, got ? 1L : 0L, want ? 1L : 0L);
+    }
+
+    /** A call that is refused with the answer, and behind which the object answers as its untouched twin does. */
+    void refused(String call, Supplier<PaperChancery> maker, ToLongFunction<PaperChancery> refusal, long answer) {
+        PaperChancery touched = maker.get();
+        due(call, refusal.applyAsLong(touched), answer);
+        List<String> got = Probe.of(touched);
+        List<String> want = Probe.of(maker.get());
+        due(call + " does nothing: " + firstUnlike(got, want), got.equals(want), true);
+    }
+
+    private static String firstUnlike(List<String> got, List<String> want) {
+        int at = 0;
+        while (at < got.size() && at < want.size() && got.get(at).equals(want.get(at))) {
+            at++;
+        }
+        return at < got.size() && at < want.size() ? got.get(at) + ", its twin " + want.get(at) : "all alike";
     }
 
     void finish() {
@@ -32,6 +64,15 @@ final class Check {
         }
         for (int i = 0; i < posts; i++) {
             x.post(0, 100);
+        }
+        return x;
+    }
+
+    /** As many persons as posts, each seated in the post of the same number. */
+    static PaperChancery seated(int count) {
+        PaperChancery x = house(count, count);
+        for (int i = 0; i < count; i++) {
+            x.seat(i, i);
         }
         return x;
     }
