@@ -367,6 +367,15 @@ public final class CourseEdgesTest {
         y.paper(2, 9, 0, 1, 1, 1000);
         check.due("dead ahead of it: the paper's post is 1", y.holder(1, 10), 2);
         check.due("dead ahead of it: it becomes free", y.holder(0, 10), -1);
+        y.paper(2, 9, 0, 1, 1, 1000);
+        check.due("and a second paper is used for it", y.holder(0, 10), 2);
+        PaperChancery u = Check.house(2, 1);
+        u.seat(0, 0);
+        u.death(1, 5);
+        u.paper(0, 3, 0, 1, 1, 1000);
+        u.resign(0, 1, 10);
+        check.due("that of the one who resigns it, too", u.paperOf(0, 1), 7);
+        check.due("who holds it again", u.holder(0, 10), 0);
         PaperChancery z = Check.house(2, 1);
         z.resign(0, 1, 10);
         check.due("without a holder nothing happens", z.holder(0, 10), -1);
@@ -475,6 +484,7 @@ public final class CourseEdgesTest {
         bar("home;with a;bar worth=100;", true);
         bar("home if worth=100;", false);
         bar("bar worth=99;".repeat(15) + "bar worth=100;", true);
+        bar("bar worth=99;".repeat(16), false);
         bar("", false);
     }
 
@@ -510,6 +520,7 @@ public final class CourseEdgesTest {
         ahead("high worth;low worth;high diocese;low diocese;home;", 100);
         ahead("with c;".repeat(15) + "with a;", 15);
         ahead("with c;".repeat(15) + "with b;", -16);
+        ahead("with c;".repeat(16), 100);
     }
 
     private static void ahead(String text, int rule) {
@@ -518,6 +529,17 @@ public final class CourseEdgesTest {
         int turned = rule == 100 ? -101 : -rule - 1;
         check.due("by " + text, x.by(0, 0, 0, 1), rule);
         check.due("turned, by " + text, x.by(0, 0, 1, 0), turned);
+        int[] clauses = {1, 2};
+        for (int first = 0; first < 2; first++) {
+            PaperChancery y = Check.house(3, 1);
+            y.seat(0, 2);
+            Check.reign(y, 5, text.replace("bar worth=100;", "bar worth=99;"));
+            y.paper(first, 0, clauses[first], 1, 1, 1000);
+            y.paper(1 - first, 0, clauses[1 - first], 1, 1, 1000);
+            y.death(2, 5);
+            check.due("who holds it, " + first + " coming first, by " + text, y.holder(0, 5),
+                    rule == 100 ? first : rule >= 0 ? 0 : 1);
+        }
     }
 
     private static void subjects() {

@@ -23,6 +23,7 @@ public final class TextEdgesTest {
         otherSubjectsBehindIf();
         theFirstFaultAlongTheText();
         theLongestText();
+        textsOneBehindTheOther();
         check.finish();
     }
 
@@ -371,6 +372,7 @@ public final class TextEdgesTest {
             faulty("home; " + word.substring(1) + " h;", 6);
             faulty("home; " + word.substring(0, word.length() - 1) + " h;", 6);
             faulty("home; " + word.substring(0, word.length() - 1) + "q h;", 6);
+            faulty("home; q" + word.substring(1) + " h;", 6);
             faulty("home; " + word + word + " h;", 6);
             faulty("home; " + word.toUpperCase(java.util.Locale.ROOT) + " h;", 6);
         }
@@ -380,6 +382,7 @@ public final class TextEdgesTest {
             faulty("bar " + word.substring(1) + "=1;", 4);
             faulty("bar " + word.substring(0, word.length() - 1) + "=1;", 4);
             faulty("bar " + word.substring(0, word.length() - 1) + "q=1;", 4);
+            faulty("bar q" + word.substring(1) + "=1;", 4);
             faulty("low " + word + word + ";", 4);
             faulty("home if " + word + "s=1;", 8);
         }
@@ -478,5 +481,27 @@ public final class TextEdgesTest {
         faulty("a".repeat(400), 0);
         faulty("1".repeat(400), 0);
         text("home if " + " ".repeat(388) + "rank", -1, 2, 396);
+    }
+
+    /** What a text had, sound or faulty, is not in the next one, nor does it take room from it. */
+    private static void textsOneBehindTheOther() {
+        check.sentence("7: The tape is the TEXT of a REIGN: of that one alone");
+        PaperChancery x = Check.house(2, 1);
+        x.seat(0, 0);
+        x.paper(1, 0, 1, 1, 1, 1000);
+        String many = "bar worth>0" + "and worth>0".repeat(33);
+        for (int i = 0; i < 5; i++) {
+            check.due("many tests that end too soon", Check.reign(x, 0, many + "and worth<5"), -1);
+        }
+        check.due("many tests that hold", Check.reign(x, 1, many + ";"), 1);
+        check.due("and one that does not", Check.reign(x, 2, many + "and worth<5;"), 1);
+        check.due("sixteen bars", Check.reign(x, 3, "bar worth<1;".repeat(15) + "bar worth>99;"), 16);
+        check.due("the same signs and numbers, but for one", Check.reign(x, 4, "bar worth<1;".repeat(15) + "bar worth=99;"), 16);
+        check.due("one of them", Check.reign(x, 5, "bar worth=100;"), 1);
+        check.due("none", x.reign(6), 0);
+        int[] claims = {1, 0, 1, 0, 1, 0, 1};
+        for (int time = 0; time < claims.length; time++) {
+            check.due("claims at " + time, x.claims(0, time), claims[time]);
+        }
     }
 }
