@@ -5,8 +5,6 @@ import java.util.function.ToLongFunction;
 
 /** What the tests share: counting wrong answers, and writing a text onto the tape. */
 final class Check {
-    /** Numbers far outside of all that can be, on both sides. */
-    static final int[] FAR = {Integer.MIN_VALUE, Integer.MIN_VALUE + 1, Integer.MAX_VALUE - 1, Integer.MAX_VALUE};
     static final int LAST_TIME = 9999999;
     /** The first that can't be, on both sides, and those far outside. */
     static final int[] NO_TIMES = {-1, LAST_TIME + 1, Integer.MIN_VALUE, Integer.MAX_VALUE};
