@@ -27,6 +27,7 @@ public final class FaceTest {
         face();
         insides();
         text();
+        lengths();
         check.finish();
     }
 
@@ -79,7 +80,7 @@ public final class FaceTest {
         String text = Files.readString(Path.of("src/main/java/PaperChancery.java"));
         String code = text.replaceAll("(?s)/\\*.*?\\*/", "").replaceAll("//[^\n]*", "").replaceAll("\"[^\"]*\"", "\"\"");
         String[] banned = {"\\bthrow\\b", "\\bthrows\\b", "\\btry\\b", "\\bcatch\\b", "\\bsynchronized\\b", "\\bassert\\b",
-            "->", "::", "\\bpackage\\b", "\\bExact\\b", "\\bprotected\\b", "\\bstatic\\s*\\{", "\\bhashCode\\b",
+            "->", "::", "\\bpackage\\b", "Exact\\b", "\\bprotected\\b", "\\bstatic\\s*\\{", "\\bhashCode\\b",
             "\\btoString\\b", "\\bSystem\\.(?!arraycopy)", "\\bwhile\\s*\\(true\\)", "\"\"\\s*\\+", "\\+\\s*\"\""};
         for (String word : banned) {
             Matcher matcher = Pattern.compile(word).matcher(code);
@@ -89,5 +90,28 @@ public final class FaceTest {
         while (imports.find()) {
             check.due("import of " + imports.group(1), imports.group(1).equals("java.util.Arrays"), true);
         }
+    }
+
+    /** A method begins with a line that opens a brace at the depth of members, and ends with the brace at that depth. */
+    private static void lengths() throws IOException {
+        Pattern begin = Pattern.compile("( {4}| {8})(?!.*\\bclass\\b)\\w.*\\(.*\\) \\{");
+        String name = "";
+        String end = null;
+        int length = 0;
+        int methods = 0;
+        for (String line : Files.readAllLines(Path.of("src/main/java/PaperChancery.java"))) {
+            Matcher matcher = begin.matcher(line);
+            length++;
+            if (end == null && matcher.matches()) {
+                name = line.trim();
+                end = matcher.group(1) + "}";
+                length = 1;
+            } else if (line.equals(end)) {
+                check.due(name + " has some sixty lines at most", length <= 60, true);
+                end = null;
+                methods++;
+            }
+        }
+        check.due("methods and constructors were found", methods > FACE.length, true);
     }
 }
